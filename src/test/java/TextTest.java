@@ -240,7 +240,7 @@ public final class TextTest {
         holds("(1<2)+(2<1)+(3=3)+(3=4)=2");
         holds("(2 and 4)+(0-3 or 0)=2");
         holds("(5 and 0)+(0 or 0)=0");
-        holds("not 1 and 0=0");
+        holds("(not 1 and 0)=0");
         holds("1 or 1 and 0");
         holds("(not 1<2)=0");
         holds("not not 5=5");
