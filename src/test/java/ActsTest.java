@@ -114,6 +114,17 @@ public final class ActsTest {
         due.is("the last one", x.leave(0), 0);
         due.is("pews", x.count(3), 0);
         due.noSuch("leave(5)", () -> x.leave(5));
+        JuniorPews y = Tape.chapel("person 1;".repeat(12) + "seats 1;");
+        y.sundays(1);
+        due.is("the front of 12 pews", y.leave(0), 0);
+        due.is("11 pews", y.count(3), 11);
+        due.is("the last one came up", y.person(11, 0), 10);
+        JuniorPews z = Tape.chapel("person 9;person 8;person 9;person 9;person 9;seats 2;arrives 0-age;");
+        z.sundays(1);
+        sit("a pew of two behind", z, 200, 0, 1, 100, 101);
+        z.leave(1);
+        z.leave(2);
+        sit("they come up, seat by seat", z, 100, -1, -1, 0, 1);
     }
 
     private static void promise11() {
@@ -215,17 +226,16 @@ public final class ActsTest {
 
     private static void promise14Latest() {
         JuniorPews x = Tape.chapel("person 0;");
-        for (int i = 0; i < 43; i++) {
-            x.lie(0, 1 + i % 2);
-            due.is("acts " + i, x.count(9), Math.min(40, i + 1));
+        for (int i = 1; i <= 95; i++) {
+            x.lie(0, 7 * i % 30);
+            due.is("acts " + i, x.count(9), Math.min(40, i));
         }
-        x.lie(0, 29);
-        due.is("40 kept", x.count(9), 40);
         for (int i = 39; i >= 0; i--) {
             due.is("undo to " + i, x.undo(), i);
+            due.is("the age ahead of " + i, x.person(0, 2), 7 * (55 + i) % 30);
         }
         due.is("no more", x.undo(), -1);
-        due.is("the age ahead of the latest 40", x.person(0, 2), 2);
+        due.is("the age ahead of the latest 40", x.person(0, 2), 7 * 55 % 30);
     }
 
     private static void promises44And45() {

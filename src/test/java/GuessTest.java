@@ -198,6 +198,18 @@ public final class GuessTest {
             }
             due.are("years by " + begin, w -> x.years(begin, 12, w), times, y.count(3), y.pew(0, 1));
         }
+        JuniorPews one = Tape.chapel("person 3;sulks age=3;");
+        seed = 1;
+        int sundays = 0;
+        boolean lied = false;
+        for (int i = 1; i <= 100 && !lied; i++) {
+            int act = draw(5);
+            int drawn = act == 0 || act == 1 ? draw(1) : 0;
+            lied = act == 1 && draw(30) != 3 - drawn;
+            sundays = i;
+        }
+        due.is("one alone doesn't come", one.years(1, sundays - 1, 2), 0);
+        due.is("one alone comes by another age", one.years(1, sundays, 2), 1);
         due.is("nothing has changed", x.count(2), 0);
         x.bar(0, 9);
         x.sundays(1);
@@ -219,6 +231,7 @@ public final class GuessTest {
         JuniorPews z = Tape.chapel("person 4;sulks age<7 or age<9 and sunday=1;");
         due.are("most, not all", w -> z.toLie(0, 2, w), 9, 2);
         due.are("of like ones", w -> z.toLie(0, 1, w), 7, 1);
+        due.are("the oldest", w -> Tape.chapel("person 4;sulks age<29;").toLie(0, 9, w), 29, 9);
         due.are("none", w -> Tape.chapel("person 4;sulks 1;").toLie(0, 9, w), 0, 0);
         due.is("nothing has changed", z.person(0, 2), 4);
         due.illegal("0", () -> x.toLie(0, 0, 0));

@@ -31,6 +31,7 @@ public final class LaterTest {
         due.are("behind 2", w -> x.then(0, 2, w), 2, 0, 2, 4);
         due.are("behind 100", w -> x.then(0, 100, w), 2, 0, 2, 200);
         due.are("4 behind 1", w -> x.then(4, 1, w), 0, 2, 0, 0);
+        due.are("2 behind 3", w -> x.then(2, 3, w), 1, 0, 1, 3);
         due.is("nothing has changed", x.count(2), 0);
         x.sundays(1);
         due.are("now, behind a Sunday", w -> x.then(0, 0, w), 2, 0, 2, 2);
@@ -197,6 +198,8 @@ public final class LaterTest {
         due.is("deepest without now", x.ahead(1, 3), 1);
         JuniorPews y = Tape.chapel("person 3;person 2;person 1;sulks sunday=0 and age<3 or sunday=1 and age=1;");
         due.is("more often", y.ahead(2, 1), 0);
+        due.is("another one more often", Tape.chapel("person 3;person 2;person 1;sulks age=3 and sunday=2 or age=1;")
+            .ahead(3, 1), 1);
         due.is("unmoved on the first", y.ahead(2, 2), 1);
         due.is("restless: of like ones the least", Tape.chapel("person 3;person 2;person 3;person 2;arrives 0-age;seats 1;")
             .ahead(1, 0), 0);

@@ -220,5 +220,16 @@ public final class NowTest {
         x.swap(0, 1);
         // 1, 0, 2 by 3, 3, 4: the lesser difference
         due.is("0 of 1, 0, 2", x.person(0, 8), 1);
+        JuniorPews y = Tape.chapel("person 3;person 3;person 3;person 3;person 3;person 3;seats 3;");
+        y.sundays(1);
+        y.swap(3, 5);
+        // 0, 1, 2 and 5, 4, 3: 3 is with 4, though 4 could be with 5
+        due.are("two pews", p -> y.person(p, 8), 1, 0, -1, 4, 3, -1);
+        JuniorPews z = Tape.chapel("person 3;person 3;person 3;person 3;person 3;");
+        z.sundays(1);
+        z.swap(0, 4);
+        z.swap(1, 2);
+        // 4, 2, 1, 3, 0: 0 with 3 and 1 with 2
+        due.are("five", p -> z.person(p, 8), 3, 2, 1, 0, -1);
     }
 }

@@ -172,6 +172,10 @@ public final class TextTest {
         fault("arrives 1 or;", 1, 12);
         fault("arrives foo;", 3, 8);
         fault("arrives or;", 3, 8);
+        fault("arrives z;", 3, 8);
+        fault("arrives a;", 3, 8);
+        fault("arrives `;", 1, 8);
+        fault("arrives {;", 1, 8);
         fault("arrives 1 and or 2;", 3, 14);
         fault("arrives theirs;", 3, 8);
         fault("sulks theirs;", 3, 6);
@@ -326,5 +330,7 @@ public final class TextTest {
         String nots = "not not not not not not ";
         x = Tape.chapel("person 1;sulks " + (nots + "1 and ").repeat(21) + nots + "0;");
         due.is("many nots", x.count(5), 1);
+        fault(";".repeat(700), 1, 0);
+        fault("arrives 1" + "+1".repeat(345) + "?", 1, 699);
     }
 }
