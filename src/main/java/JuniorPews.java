@@ -967,7 +967,8 @@ public final class JuniorPews {
                 }
                 registers[FIRST_OUTCOME + i] = outcome;
             }
-            return has(rule) ? registers[roots[rule]] : 0;
+            int root = roots[rule];
+            return root == NONE ? 0 : registers[root];
         }
     }
 
@@ -1041,6 +1042,7 @@ public final class JuniorPews {
             return places[at];
         }
 
+        /** The first fault counts. */
         private int fail(int what) {
             if (fault == 0) {
                 fault = what;
@@ -1262,11 +1264,17 @@ public final class JuniorPews {
         }
 
         private int part(int within) {
-            if (isSign('(')) {
-                return inParentheses(within + 1);
-            }
             int register = NONE;
-            if (kinds[at] == NUMBER) {
+            if (isSign('(')) {
+                next();
+                if (within + 1 >= MOST_WITHIN) {
+                    return fail(kinds[at] == NUMBER || kinds[at] == WORD || isSign('(') ? TOO_MUCH : CANT_STAND);
+                }
+                register = climb(OR_LEVEL, within + 1);
+                if (!isSign(')')) {
+                    fail(CANT_STAND);
+                }
+            } else if (kinds[at] == NUMBER) {
                 register = tokens[at] > HIGHEST_NUMBER ? fail(TOO_MUCH) : draft.number(tokens[at]);
             } else if (kinds[at] == WORD) {
                 register = isValue(tokens[at] - FIRST_VALUE_WORD) ? tokens[at] - FIRST_VALUE_WORD : fail(NO_VALUE);
@@ -1277,20 +1285,6 @@ public final class JuniorPews {
                 next();
             }
             return register;
-        }
-
-        private int inParentheses(int within) {
-            next();
-            boolean mayBegin = kinds[at] == NUMBER || kinds[at] == WORD || isSign('(');
-            if (within >= MOST_WITHIN) {
-                return fail(mayBegin ? TOO_MUCH : CANT_STAND);
-            }
-            int inner = climb(OR_LEVEL, within);
-            if (fault != 0 || !isSign(')')) {
-                return fail(CANT_STAND);
-            }
-            next();
-            return inner;
         }
 
         private boolean isValue(int value) {
@@ -1842,7 +1836,8 @@ public final class JuniorPews {
         private void notePewsBy(int person, int age) {
             tryWith(person, age);
             for (int k = 0; k < LOOK_SUNDAYS; k++) {
-                trial.goBy(false);
+                trial.lineUp(false);
+                trial.holdService();
             }
             for (int p = 0; p < now.rules.people; p++) {
                 pewBits[p] |= 1 << pewOr12(trial.held[SPOT + p]);
