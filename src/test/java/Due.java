@@ -4,11 +4,16 @@ import java.util.function.LongSupplier;
 /** Counts and prints the answers of one test that are not the ones due. */
 final class Due {
     private int wrong = 0;
+    private String heading = "";
+
+    /** What is printed from here on stands under this name. */
+    void begin(String name) {
+        heading = name + ": ";
+    }
 
     void is(String call, long got, long want) {
         if (got != want) {
-            wrong++;
-            System.out.println(call + " answered " + got + ", due is " + want);
+            tellWrong(call + " answered " + got + ", due is " + want);
         }
     }
 
@@ -41,8 +46,12 @@ final class Due {
             }
             answer = "threw " + e;
         }
+        tellWrong(call + " " + answer + ", due is " + due.getSimpleName());
+    }
+
+    void tellWrong(String what) {
         wrong++;
-        System.out.println(call + " " + answer + ", due is " + due.getSimpleName());
+        System.out.println(heading + what);
     }
 
     void end(String name) {

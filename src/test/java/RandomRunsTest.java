@@ -8,6 +8,10 @@ public final class RandomRunsTest {
         "qs", "ps", "p", "pp", "pps", "", "ps", "pw", "q", "i", "pw", "p", "w", "pfq", "", "w", "w", "pff", "ppw", "nsw", "sw",
         "pps", "pas", "ps", "psw", "", "", "", "nnn", "n"};
 
+    /** Where the document's bounds lie, and what lies farthest off. */
+    private static final int[] EDGES = {Integer.MIN_VALUE, Integer.MIN_VALUE + 1, -2, -1, 0, 1, 2, 3, 4, 5, 6, 8, 9, 10, 11, 12,
+        13, 14, 15, 19, 20, 21, 28, 29, 30, 99, 100, 101, 200, 201, 700, 9999, Integer.MAX_VALUE - 1, Integer.MAX_VALUE};
+
     private static int wrong = 0;
 
     private final Random random;
@@ -59,6 +63,9 @@ public final class RandomRunsTest {
     private int argument(char kind, int call) {
         if (oneIn(25)) {
             return random.nextInt(120) - 10;
+        }
+        if (oneIn(15)) {
+            return EDGES[random.nextInt(EDGES.length)];
         }
         switch (kind) {
             case 'p': return random.nextInt(Math.max(1, people));
