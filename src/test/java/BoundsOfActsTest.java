@@ -201,6 +201,12 @@ public final class BoundsOfActsTest {
         sit("empty", y, -1, -1, 0);
         due.is("the last one of all", y.leave(2), 0);
         due.is("no pew", y.count(3), 0);
+        JuniorPews z = after("person 9;".repeat(12) + "seats 4;");
+        for (int p = 0; p < 4; p++) {
+            z.leave(p);
+        }
+        sit("full pews come up", z, -1, -1, -1, -1, 0, 1, 2, 3, 100, 101, 102, 103);
+        due.are("the pew behind", w -> z.pew(1, w), 4, 3840, 8, 11, 36);
     }
 
     /** "How often one was PUT OUT, 'away', stay". */
@@ -490,7 +496,9 @@ public final class BoundsOfActsTest {
             x.undo();
         }
         x.forget();
-        x.lie(0, 9);
+        for (int i = 1; i <= 50; i++) {
+            x.lie(0, 9 + i % 2);
+        }
         due.is("restore", x.restore(), true);
         due.are("count 9, 10", i -> x.count(9 + i), 40, 8);
         due.is("the last one's pew", x.person(11, 0), 11);
@@ -574,6 +582,42 @@ public final class BoundsOfActsTest {
         z.forget();
         due.is("restore behind undo", z.restore(), true);
         Twins.compare(due, "restore() behind undo", z, livedWithImage(), Map.of());
+    }
+
+    /** What was SEEN is as the image again, not only how much: PERSON, SUNDAYS and PEW of each. */
+    private static void p45_restore_whatWasSeen() {
+        JuniorPews x = Tape.chapel("person 9;person 5;");
+        x.see(0, 1, 1);
+        x.see(1, 2, 0);
+        x.image();
+        x.forget();
+        x.see(1, 1, 1);
+        x.see(0, 0, 0);
+        due.are("others", x::old, 0, -1, 0);
+        x.restore();
+        due.are("as the image", x::old, 31, 6, 1);
+        due.is("how much", x.count(10), 2);
+        x.forget();
+        x.see(1, 1, 0);
+        x.see(1, 1, 0);
+        x.restore();
+        due.are("as the image again", x::old, 31, 6, 1);
+    }
+
+    /** What only SUNDAYS bring goes on from the image then, and from what an ACT was undone to. */
+    private static void p45_restore_whatSundaysBringThen() {
+        JuniorPews x = Tape.chapel("person 9;person 5;");
+        x.image();
+        x.bar(0, 9);
+        due.is("barred", x.then(0, 1, 0), -1);
+        x.restore();
+        due.is("restored", x.then(0, 1, 0), 1);
+        x.bar(0, 9);
+        due.is("barred again", x.then(0, 1, 0), -1);
+        x.undo();
+        due.is("undone", x.then(0, 1, 0), 1);
+        Tape.tell(x, "person 3;");
+        due.is("a chapel", x.then(0, 1, 0), 0);
     }
 
     private static JuniorPews livedWithImage() {

@@ -205,6 +205,22 @@ public final class BoundsOfGuessTest {
         due.are("it can't be", x::look, -1, 0);
         x.forget();
         due.are("nothing is seen", x::look, 0, 2);
+        due.are("asked again", x::look, 0, 2);
+        x.see(0, 4, 1);
+        x.see(1, 4, 0);
+        due.are("both are seen there", x::look, 0, 1);
+        x.see(0, 4, 0);
+        due.are("it can't be then", x::look, -1, 0);
+    }
+
+    /** By AGE 0 alone, and by 29 alone, it is one PEW. */
+    private static void p34_look_byAge0Or29Alone() {
+        JuniorPews x = Tape.chapel("person 5;sulks 0<age;");
+        x.see(0, 1, 0);
+        due.are("0", x::look, 0, 1);
+        JuniorPews y = Tape.chapel("person 5;sulks age<29;");
+        y.see(0, 1, 0);
+        due.are("29", y::look, 0, 1);
     }
 
     /** "nowhere is one, too": one who never comes sits in one unlike PEW; "of like ones the least". */
@@ -270,6 +286,9 @@ public final class BoundsOfGuessTest {
         JuniorPews x = Tape.chapel("person 15;person 14;minds 0;");
         due.is("15", x.rain(0, 1, 10), 0);
         due.is("14", x.rain(1, 1, 10), 10);
+        JuniorPews z = Tape.chapel("person 14;".repeat(10) + "person 15;person 14;minds 0;");
+        due.is("15 of the 11th", z.rain(10, 1, 10), 0);
+        due.is("14 of the 12th", z.rain(11, 1, 10), 10);
         JuniorPews y = Tape.chapel("person 29;person 0;minds 0;");
         due.is("29", y.rain(0, 1, 10), 0);
         due.is("0", y.rain(1, 1, 10), 10);
@@ -491,6 +510,10 @@ public final class BoundsOfGuessTest {
         due.are("0", w -> Tape.chapel("person 5;sulks 0<age;").toLie(0, 100, w), 0, 100);
         due.are("29", w -> Tape.chapel("person 5;sulks age<29;").toLie(0, 100, w), 29, 100);
         due.are("one's own", w -> Tape.chapel("person 5;sulks not age=5;").toLie(0, 100, w), 5, 100);
+        // the 12th finds 11 who sit in pews of one: at 0 they mind
+        due.are("the 12th", w -> Tape.chapel(COLUMN).toLie(11, 100, w), 0, 100);
+        due.are("the 12th at 7 alone", w -> Tape.chapel("person 1;".repeat(11) + "person 29;sulks 1<age and not age=7 or age=0;"
+            + "minds theirs=7;seats 1;").toLie(11, 100, w), 7, 100);
     }
 
     /** "of like ones the least": 0, if none is better, and how many is 0. */

@@ -117,6 +117,10 @@ public final class BoundsOfLaterTest {
         due.is("behind the last", x.who(1, 1, 1), -1);
         due.is("an empty pew", x.who(2, 0, 1), -1);
         due.is("without people", new JuniorPews().who(0, 0, 100), -1);
+        due.is("12 sit nowhere", Tape.chapel(TWELVE).who(0, 0, 0), -1);
+        JuniorPews y = Tape.chapel(TWELVE + "sulks sunday=0;");
+        due.is("behind 2", y.who(0, 0, 2), 0);
+        due.is("12 sit nowhere behind 1", y.who(0, 0, 1), -1);
     }
 
     /* ---- promise 17 ---- */
@@ -155,6 +159,12 @@ public final class BoundsOfLaterTest {
         JuniorPews z = Tape.chapel(YOUNGER);
         due.are("12 put out", w -> z.later(100, w), 12, 4095, 66, 0);
         due.are("without people", w -> new JuniorPews().later(100, w), 0, 0, 0, -1);
+        JuniorPews one = Tape.chapel(TWELVE + "sulks not age=1;seats 1;arrives 0-(seat=0);");
+        one.lie(0, 2);
+        one.lie(11, 2);
+        one.sundays(1);
+        one.swap(4, 10);
+        due.are("one between is the last", w -> one.later(0, w), 10, 2046, 0, 4);
     }
 
     /** Behind 0 SUNDAYS it is as now, also who was PUT OUT by one who came late. */
@@ -392,6 +402,7 @@ public final class BoundsOfLaterTest {
     private static void p24_neighbours_atTheEndsOfAPew() {
         JuniorPews x = Tape.chapel(TWELVE);
         due.is("seat 0", x.neighbours(0, 1), 2);
+        due.is("seat 1", x.neighbours(1, 1), 5);
         due.is("seat 11", x.neighbours(11, 1), 1024);
         due.is("seat 10", x.neighbours(10, 100), 2048 + 512);
         due.is("nowhere", x.neighbours(0, 0), 0);
@@ -435,6 +446,9 @@ public final class BoundsOfLaterTest {
         y.lie(11, 29);
         // the 12th comes first, and all others put one out
         due.is("the 12th", y.ahead(100, 0), 11);
+        JuniorPews z = Tape.chapel(YOUNGER + "sulks sunday=0;");
+        due.is("on the second", z.ahead(2, 0), 0);
+        due.is("nobody on the first", z.ahead(1, 0), -1);
     }
 
     /** "PIOUS (1; NONE)": 0 and 100 are taken, -1 and 101 aren't. */
@@ -461,6 +475,9 @@ public final class BoundsOfLaterTest {
             y.bar(p, 1);
         }
         due.is("the 12th", y.ahead(100, 1), 11);
+        JuniorPews z = Tape.chapel(TWELVE + "sulks sunday=0;");
+        due.is("on the second", z.ahead(2, 1), 0);
+        due.is("nobody on the first", z.ahead(1, 1), -1);
     }
 
     /** "UNMOVED (2; sundays 1 to 100)": 1 and 100 are taken, 0 and 101 aren't. */
@@ -486,6 +503,8 @@ public final class BoundsOfLaterTest {
         due.is("99", x.ahead(99, 3), 0);
         due.is("100", x.ahead(100, 3), 12);
         due.is("without people", new JuniorPews().ahead(100, 3), 0);
+        due.is("on the first alone", Tape.chapel(COLUMN + "sulks 0<sunday;").ahead(1, 3), 12);
+        due.is("12 on the first, none behind it", Tape.chapel(COLUMN + "sulks 0<sunday;").ahead(100, 3), 12);
         for (int sundays : NOT_1_TO_100) {
             Twins.illegal(due, "ahead(" + sundays + ", 3)", y -> y.ahead(sundays, 3));
         }
@@ -568,6 +587,9 @@ public final class BoundsOfLaterTest {
             Twins.illegal(due, "forward(0, 3, " + sundays + ")", y -> y.forward(0, 3, sundays));
         }
         Twins.asks(due, "forward(0, 0, 100)", y -> y.forward(0, 0, 100));
+        // 1 is 6 and puts out 0, who sits in PEW 1 then; 0 would stay in front at 6, but not at 7
+        due.is("lived, 6", Twins.lived().forward(0, 6, 1), 1);
+        due.is("lived, 7", Twins.lived().forward(0, 7, 1), 0);
     }
 
     /** "(below 0: more; nowhere counts as 12)": from 12 to -12, 0 of nowhere twice. */
@@ -578,6 +600,9 @@ public final class BoundsOfLaterTest {
         due.is("from the front to nowhere", x.forward(1, 5, 1), -12);
         due.is("from pew 11 to the front", Tape.chapel(YOUNGER).forward(0, 0, 1), 11);
         due.is("from the front to pew 11", Tape.chapel(COLUMN).forward(0, 2, 1), -11);
+        // PEW 11 is 11's, who comes last, and 0 to 10 would be put out by all behind, were they 2
+        due.is("the last of 12", Tape.chapel(COLUMN).forward(11, 0, 1), 11);
+        due.is("one between", Tape.chapel(COLUMN).forward(5, 2, 100), -6);
     }
 
     /** "(behind NoSuchElementException)". */

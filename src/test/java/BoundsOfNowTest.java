@@ -235,6 +235,13 @@ public final class BoundsOfNowTest {
         due.are("9 went by", i -> x.person(0, 5 + i), 9, 0);
         x.sundays(1);
         due.are("10 went by", i -> x.person(0, 5 + i), 0, 0);
+        JuniorPews y = Tape.chapel(TWELVE);
+        y.bar(11, 9);
+        y.bar(5, 3);
+        y.sundays(1);
+        due.are("the last of 12", i -> y.person(11, 5 + i), 1, 8);
+        due.are("one between", i -> y.person(5, 5 + i), 1, 2);
+        due.are("another one", i -> y.person(10, 5 + i), 0, 0);
     }
 
     /** "8 with whom one is of COUPLES (NONE)": nowhere, alone, the one too many. */
@@ -519,6 +526,36 @@ public final class BoundsOfNowTest {
         due.are("29 six times", after("person 0;person 29;".repeat(6) + "minds 0;")::couples, 6, 174);
         due.are("0 of three", after("person 0;person 29;person 29;")::couples, 1, 0);
         due.are("0 of three, the first two", after("person 0;person 0;person 29;")::couples, 1, 0);
+    }
+
+    /** Of 11 in a PEW any one in an even SEAT may be with nobody, the first and the last one, too. */
+    private static void p30_couples_of11AnyEvenSeatIsAlone() {
+        for (int alone = 0; alone <= 10; alone += 2) {
+            // each couple has an AGE of its own, and who is alone another one
+            StringBuilder text = new StringBuilder("minds 0;");
+            for (int seat = 0; seat < 11; seat++) {
+                int couple = seat < alone ? seat / 2 : (seat + 1) / 2;
+                text.append("person ").append(seat == alone ? 29 : couple).append(';');
+            }
+            JuniorPews x = after(text.toString());
+            due.are("alone in " + alone, x::couples, 5, 0);
+            for (int seat = 0; seat < 11; seat++) {
+                int other = seat == alone ? -1 : seat < alone ? seat ^ 1 : seat % 2 == 0 ? seat - 1 : seat + 1;
+                due.is("alone in " + alone + ", with " + seat, x.person(seat, 8), other);
+            }
+        }
+    }
+
+    /** They are counted anew by each call. */
+    private static void p30_couples_askedTwice() {
+        JuniorPews x = after(TWELVE);
+        x.lie(0, 3);
+        due.is("how many", x.couples(0), 6);
+        due.is("how many again", x.couples(0), 6);
+        due.is("how much", x.couples(1), 2);
+        due.is("how much again", x.couples(1), 2);
+        x.leave(11);
+        due.is("by one less", x.couples(0), 5);
     }
 
     /** "as many as can" counts more than how much: of four there are two couples. */

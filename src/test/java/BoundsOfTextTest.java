@@ -363,6 +363,13 @@ public final class BoundsOfTextTest {
         due.is("they hold", x.count(5), 0);
     }
 
+    /** A text of 700 TOKENS, each a byte. */
+    private static void terms_text_700TokensAreRead() {
+        fault(";".repeat(700), 1, 0);
+        fault("arrives 1" + "+1".repeat(345) + "+", 1, 700);
+        fault("arrives 1" + "+1".repeat(345) + "?", 1, 699);
+    }
+
     /** "words (a .. z, the longest row)": a and z are letters, the bytes beside them are none. */
     private static void terms_words_aAndZAreLettersAndTheirNeighboursAreNot() {
         fault("arrives a;", 3, 8);
@@ -721,6 +728,12 @@ public final class BoundsOfTextTest {
         due.is("nowhere", x.count(5), 0);
         x.come(0);
         due.is("pew 0, seat 0", x.count(5), 1);
+        JuniorPews p = Tape.chapel("person 3;person 3;sulks pew=12;");
+        p.come(0);
+        due.is("pew alone", p.count(5), 1);
+        JuniorPews s = Tape.chapel("person 3;person 3;sulks seat=12;");
+        s.come(0);
+        due.is("seat alone", s.count(5), 1);
         JuniorPews y = Tape.chapel(TWELVE + "sulks seat=11;");
         y.sundays(1);
         due.is("seat 11", y.count(5), 2047);
@@ -755,6 +768,13 @@ public final class BoundsOfTextTest {
         due.is("came", x.person(0, 5), 0);
         x.sundays(1);
         due.is("one", x.person(0, 5), 1);
+        // the last of 12 is away for itself: 3, while all others come
+        JuniorPews y = Tape.chapel(TWELVE + "sulks age=9 and away<3;");
+        y.lie(11, 9);
+        y.sundays(3);
+        due.is("the last of 12", y.person(11, 5), 3);
+        due.is("another one", y.person(10, 5), 0);
+        due.is("would come then", y.count(5), 4095);
     }
 
     /** 'sunday' is the SUNDAY ahead of it: 0 at first, and one that the next 10,000 Sundays bring, too. */

@@ -26,6 +26,8 @@ final class Twins {
      */
     static JuniorPews lived() {
         JuniorPews x = Tape.chapel("person 20;person 5;person 12;person 8;seats 2;");
+        x.asNow();
+        x.old(0);
         x.sundays(2);
         x.bar(3, 4);
         x.lie(1, 6);
@@ -38,6 +40,9 @@ final class Twins {
         x.see(0, 0, 12);
         Tape.tell(x, "person 3;?");
         Tape.feed(x, "person 7;person 8;");
+        // what was worked out of it must be void wherever it changes
+        x.asNow();
+        x.old(0);
         return x;
     }
 
