@@ -152,6 +152,18 @@ public final class BoundsOfActsTest {
         due.is("nowhere again", x.person(0, 0), -1);
     }
 
+    /** "'away' stays", of who is PUT OUT by one who comes late, too. */
+    private static void p09_come_awayOfWhoIsPutOutStays() {
+        JuniorPews x = Tape.chapel("person 9;person 5;");
+        x.bar(0, 2);
+        x.bar(1, 2);
+        x.sundays(2);
+        x.come(0);
+        due.is("puts out one", x.come(1), 1);
+        due.are("who is put out", w -> x.person(0, w), 1, 0, 9, 1, 1, 2, 0);
+        due.are("who comes", w -> x.person(1, w), 0, 0, 5, 0, 0, 2, 0);
+    }
+
     /** "no such PERSON (as everywhere)". */
     private static void p09_come_noSuchPerson() {
         for (int p : NO_PEOPLE) {
@@ -184,6 +196,12 @@ public final class BoundsOfActsTest {
         x.leave(11);
         sit("the last left", x, -1, 0, 1, 2, 3, 4, 5, 6, 7, 8, 9, -1);
         due.are("pew 0", w -> x.pew(0, w), 10, 2046, 1, 10, 10);
+        JuniorPews y = after("person 1;".repeat(6) + "seats 3;");
+        due.is("a pew behind", y.leave(3), 1);
+        sit("its first left", y, 0, 1, 2, -1, 100, 101);
+        JuniorPews z = after(TWELVE + "seats 6;");
+        z.leave(10);
+        sit("the last one comes up", z, 0, 1, 2, 3, 4, 5, 100, 101, 102, 103, -1, 104);
     }
 
     /** "and, if it is empty, PEWS behind come up": behind the first of 12, none behind the last; not if it isn't empty. */
@@ -258,6 +276,19 @@ public final class BoundsOfActsTest {
         due.is("and back", y.swap(11, 0), true);
         due.is("acts", y.count(9), 3);
         due.is("nobody is put out", y.count(7), 0);
+    }
+
+    /** "How often one was PUT OUT, 'away', stay": of both; AGE and BARRED, too. */
+    private static void p11_swap_putOutAndAwayStay() {
+        JuniorPews x = Tape.chapel("person 9;person 5;");
+        x.bar(0, 2);
+        x.sundays(1);
+        x.come(0);
+        x.leave(1);
+        x.come(1);
+        x.swap(0, 1);
+        due.are("person 0", w -> x.person(0, w), 0, 0, 9, 1, 1, 1, 1, -1, -1);
+        due.are("person 1", w -> x.person(1, w), 1, 0, 5, 0, 0, 0, 0, 0, -1);
     }
 
     /** No such PERSON, the one or the other one, also if both are one. */
@@ -350,6 +381,14 @@ public final class BoundsOfActsTest {
         due.is("0", x.then(0, 1, 0), 0);
     }
 
+    /** "How often one was PUT OUT, 'away', stay", and where one sits: BARRED or not, it is for the SUNDAYS to come. */
+    private static void p13_bar_nothingElseChanges() {
+        JuniorPews x = after("person 9;person 5;");
+        x.bar(0, 9);
+        due.are("person 0", w -> x.person(0, w), 1, 0, 9, 1, 1, 0, 9, -1, -1);
+        due.are("person 1", w -> x.person(1, w), 0, 0, 5, 0, 0, 0, 0, 0, -1);
+    }
+
     /* ---- promise 14 ---- */
 
     /** "NONE: there is none": at first, when all are UNDONE, behind a chapel(); it is no refusal and changes nothing. */
@@ -433,6 +472,18 @@ public final class BoundsOfActsTest {
         due.is(act + ": acts", x.count(9), 6);
         due.is(act + " undone", x.undo(), 5);
         Twins.compare(due, act + " undone", x, Twins.lived(), Map.of());
+    }
+
+    /** All 12 sit in their PEWS again, the last one, too. */
+    private static void p14_undo_the12thSitsAgain() {
+        JuniorPews x = after(COLUMN);
+        x.leave(11);
+        x.undo();
+        due.are("pew 11", w -> x.pew(11, w), 1, 2048, 11, 11, 1);
+        JuniorPews y = after(TWELVE);
+        y.leave(0);
+        y.undo();
+        due.are("pew 0", w -> y.pew(0, w), 12, 4095, 0, 11, 12);
     }
 
     /** What is SEEN, STATUS, the tape and the image are no ACTS: they stay as an ACT is UNDONE. */
@@ -602,6 +653,33 @@ public final class BoundsOfActsTest {
         x.see(1, 1, 0);
         x.restore();
         due.are("as the image again", x::old, 31, 6, 1);
+    }
+
+    /** The 8th that was SEEN is as the image again, as the first seven. */
+    private static void p45_restore_the8thThatWasSeen() {
+        JuniorPews x = Tape.chapel("person 9;person 5;sulks sunday=2;");
+        for (int i = 0; i < 8; i++) {
+            x.see(0, 1, 1);
+        }
+        x.image();
+        x.forget();
+        for (int i = 0; i < 8; i++) {
+            x.see(1, 3, 0);
+        }
+        due.is("others", x.old(2), 0);
+        x.restore();
+        due.is("as the image", x.old(2), 1);
+    }
+
+    /** All 12 sit in their PEWS as the image, the last one, too. */
+    private static void p45_restore_the12thSitsAgain() {
+        JuniorPews x = after(COLUMN);
+        x.image();
+        x.leave(11);
+        x.leave(0);
+        x.restore();
+        due.are("pew 11", w -> x.pew(11, w), 1, 2048, 11, 11, 1);
+        due.is("pew 0", x.pew(0, 2), 0);
     }
 
     /** What only SUNDAYS bring goes on from the image then, and from what an ACT was undone to. */

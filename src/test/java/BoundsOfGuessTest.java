@@ -173,6 +173,16 @@ public final class BoundsOfGuessTest {
         due.are("now", z::old, 29, 0, 1);
     }
 
+    /** "behind so many SUNDAYS": 0 of the 12th, who sits in PEW 11 now. */
+    private static void p33_old_the12thBehind0() {
+        JuniorPews x = Tape.chapel(COLUMN);
+        x.sundays(1);
+        x.see(11, 0, 11);
+        due.are("as now", x::old, 348, 0, 1);
+        x.see(11, 0, 10);
+        due.are("not as now", x::old, 0, -1, 0);
+    }
+
     /** All of 8 that are SEEN count, the first and the last one. */
     private static void p33_old_all8Count() {
         for (int wrong = 0; wrong <= 8; wrong++) {
@@ -221,6 +231,13 @@ public final class BoundsOfGuessTest {
         JuniorPews y = Tape.chapel("person 5;sulks age<29;");
         y.see(0, 1, 0);
         due.are("29", y::look, 0, 1);
+    }
+
+    /** By an AGE of the 12th alone it is one PEW of each: all others are nowhere behind 4. */
+    private static void p34_look_byThe12thAlone() {
+        JuniorPews x = Tape.chapel(TWELVE + "sulks 0<age and not sunday=0;");
+        x.see(11, 2, 0);
+        due.are("look", x::look, 0, 1);
     }
 
     /** "nowhere is one, too": one who never comes sits in one unlike PEW; "of like ones the least". */
@@ -306,6 +323,32 @@ public final class BoundsOfGuessTest {
         due.is("barred for 4", y.rain(0, 5, 0), 100000);
     }
 
+    /** "as so many of 10 to the power of these SUNDAYS": the least is 1 of 100,000, the next 9 times 9 .. of them. */
+    private static void p35_rain_1Of100000() {
+        // who was away once stays away: it must be dry on all five
+        JuniorPews x = Tape.chapel("person 15;sulks 0<away;");
+        due.is("a tenth, five times", x.rain(0, 5, 9), 1);
+        due.is("nine tenths, five times", x.rain(0, 5, 1), 59049);
+        due.is("a tenth, once", x.rain(0, 1, 9), 1);
+    }
+
+    /** It rains by rain() alone: who is 15 or more would come, by all other questions. */
+    private static void p35_rain_noOtherQuestionKnowsIt() {
+        JuniorPews x = Tape.chapel("person 29;person 20;");
+        x.rain(0, 5, 10);
+        due.is("who would come", x.count(5), 3);
+        due.are("order", x::order, 0, 1, -1);
+        due.is("longest", x.longest(-1), 1);
+        due.is("longest, the first", x.longest(0), 0);
+        due.are("to come", w -> x.toCome(0, w), 1, 0);
+        due.is("whose", x.whose(0), 1);
+        due.is("to bar", x.toBar(), 0);
+        due.is("put by", x.putBy(0, 1, 1), 1);
+        due.is("then", x.then(0, 1, 0), 1);
+        JuniorPews y = Tape.chapel("person 20;".repeat(12) + "seats 1;");
+        due.are("game", w -> y.game(10, 11, w), 1, 11);
+    }
+
     /** "IllegalArgumentException (behind NoSuchElementException)". */
     private static void p35_rain_noSuchElementAheadOfIllegalArgument() {
         for (int p : NO_PEOPLE) {
@@ -374,6 +417,14 @@ public final class BoundsOfGuessTest {
         JuniorPews x = Tape.chapel(COLUMN);
         // 11 gains 1, and 11 by being early, as 10 gains 2 and 11; both early: 10 has 11, 11 has 10
         due.are("both come early", w -> x.game(10, 11, w), 1, 11);
+    }
+
+    /** "the lesser of both first", whichever is told first; "10 by the first one's and the other one's". */
+    private static void p36_game_theLesserOfBothFirst() {
+        JuniorPews x = Tape.chapel("person 3;person 3;person 3;seats 1;");
+        // the gains of 1, 2 by 00 are 11, 10, by 01 10, 11, by 10 11, 10, by 11 11, 10
+        due.are("1 and 2", w -> x.game(1, 2, w), 2, 10);
+        due.are("2 and 1", w -> x.game(2, 1, w), 2, 1);
     }
 
     /* ---- promise 37 ---- */
@@ -510,6 +561,8 @@ public final class BoundsOfGuessTest {
         due.are("0", w -> Tape.chapel("person 5;sulks 0<age;").toLie(0, 100, w), 0, 100);
         due.are("29", w -> Tape.chapel("person 5;sulks age<29;").toLie(0, 100, w), 29, 100);
         due.are("one's own", w -> Tape.chapel("person 5;sulks not age=5;").toLie(0, 100, w), 5, 100);
+        due.are("30 isn't one", w -> Tape.chapel("person 5;sulks age<30;").toLie(0, 100, w), 0, 0);
+        due.are("-1 isn't one", w -> Tape.chapel("person 5;sulks 0-1<age;").toLie(0, 100, w), 0, 0);
         // the 12th finds 11 who sit in pews of one: at 0 they mind
         due.are("the 12th", w -> Tape.chapel(COLUMN).toLie(11, 100, w), 0, 100);
         due.are("the 12th at 7 alone", w -> Tape.chapel("person 1;".repeat(11) + "person 29;sulks 1<age and not age=7 or age=0;"
@@ -563,5 +616,30 @@ public final class BoundsOfGuessTest {
         due.is("one is put out", y.later(1, 2), 1);
         due.is("without 3 nobody is", y.toBar(), 3);
         due.is("the 12th", Tape.chapel("person 9;".repeat(11) + "person 1;minds theirs<age and moved=0;").toBar(), 11);
+    }
+
+    /** "fewest": one by whose staying away fewer are counts more than a lesser one by whose they are fewer than without. */
+    private static void p43_toBar_fewestAheadOfTheLeast() {
+        JuniorPews x = Tape.chapel("person 4;person 1;person 5;person 4;person 3;");
+        int[] without = {3, 3, 2, 2, 2};
+        due.is("without any", x.later(1, 2), 4);
+        for (int p = 0; p < 5; p++) {
+            x.bar(p, 1);
+            due.is("without " + p, x.later(1, 2), without[p]);
+            x.undo();
+        }
+        due.is("toBar()", x.toBar(), 2);
+    }
+
+    /** "on the next SUNDAY alone": how often they were PUT OUT before counts for nothing. */
+    private static void p43_toBar_whatWasCountsForNothing() {
+        JuniorPews x = Tape.chapel("person 9;person 5;person 3;");
+        x.sundays(2);
+        // by one of any two of them one is put out
+        due.is("of like ones the least", x.toBar(), 0);
+        JuniorPews y = Tape.chapel(TWO);
+        y.sundays(2);
+        y.lie(0, 5);
+        due.is("nobody is put out any more", y.toBar(), -1);
     }
 }

@@ -10,6 +10,8 @@ public final class BoundsOfLaterTest {
     /** 0 is PUT OUT by 1, on each SUNDAY that both come. */
     private static final String TWO = "person 9;person 5;";
     private static final String LIKE = "person 5;person 5;";
+    /** The 12th comes first and is PUT OUT by 0, and nobody else is. */
+    private static final String OLDEST_FIRST = "person 1;".repeat(11) + "person 29;arrives 0-(age=29);";
     /** All come on the 100th SUNDAY from the first one on, or on the 101st, and on no other. */
     private static final String ON_100TH = "sulks not sunday=99;";
     private static final String ON_101ST = "sulks not sunday=100;";
@@ -165,6 +167,12 @@ public final class BoundsOfLaterTest {
         one.sundays(1);
         one.swap(4, 10);
         due.are("one between is the last", w -> one.later(0, w), 10, 2046, 0, 4);
+        due.are("one alone", w -> Tape.chapel("person 3;").later(1, w), 1, 1, 0, 0);
+    }
+
+    /** "how often all were PUT OUT": the 12th, too, where nobody else is. */
+    private static void p17_later_putOutOfThe12thAlone() {
+        due.is("put out", Tape.chapel(OLDEST_FIRST).later(1, 2), 1);
     }
 
     /** Behind 0 SUNDAYS it is as now, also who was PUT OUT by one who came late. */
@@ -451,6 +459,16 @@ public final class BoundsOfLaterTest {
         due.is("nobody on the first", z.ahead(1, 0), -1);
     }
 
+    /** The 12th is RESTLESS by what is to come, not by what was; so is UNMOVED. */
+    private static void p38_ahead_theOneWhoIsPutOutIsThe12th() {
+        JuniorPews x = Tape.chapel(OLDEST_FIRST);
+        x.sundays(1);
+        due.is("restless in none", x.ahead(0, 0), -1);
+        due.is("restless", x.ahead(1, 0), 11);
+        due.is("unmoved", x.ahead(1, 2), 0);
+        due.is("unmoved of 100", x.ahead(100, 2), 0);
+    }
+
     /** "PIOUS (1; NONE)": 0 and 100 are taken, -1 and 101 aren't. */
     private static void p38_ahead_piousTakes0And100AndNotMinus1And101() {
         JuniorPews x = Tape.chapel(TWO + ON_100TH);
@@ -475,6 +493,9 @@ public final class BoundsOfLaterTest {
             y.bar(p, 1);
         }
         due.is("the 12th", y.ahead(100, 1), 11);
+        JuniorPews w = Tape.chapel(TWELVE);
+        w.sundays(1);
+        due.is("who sits now doesn't count", w.ahead(1, 1), 0);
         JuniorPews z = Tape.chapel(TWELVE + "sulks sunday=0;");
         due.is("on the second", z.ahead(2, 1), 0);
         due.is("nobody on the first", z.ahead(1, 1), -1);

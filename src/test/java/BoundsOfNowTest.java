@@ -123,6 +123,14 @@ public final class BoundsOfNowTest {
         due.is("in all, nobody came", x.count(7), 132);
     }
 
+    /** The 12th counts, too, where nobody else is PUT OUT. */
+    private static void p05_count_putOutOfThe12thAlone() {
+        JuniorPews x = after("person 1;".repeat(11) + "person 29;arrives 0-(age=29);");
+        due.is("since", x.count(6), 1);
+        due.is("in all", x.count(7), 1);
+        due.is("its own", x.person(11, 3), 1);
+    }
+
     /** "IN ORDER: PEWS in which no AGE is less than that of the one ahead": like ones, one alone, 12 PEWS; not an empty one. */
     private static void p05_count_inOrderByLikeAgesAloneAndNobody() {
         due.is("12 alone", after(COLUMN).count(8), 4095);
@@ -426,6 +434,19 @@ public final class BoundsOfNowTest {
         due.are("row that begins behind", y::longest, 1, 2);
     }
 
+    /** A row whose first one is the first in ORDER, whatever number that is. */
+    private static void p27_longest_beginsWithTheFirstInOrder() {
+        JuniorPews x = Tape.chapel("person 9;person 3;arrives age;");
+        due.are("row", x::longest, 1, 0);
+        JuniorPews y = Tape.chapel(TWELVE + "arrives 0-age;");
+        y.lie(11, 2);
+        // in ORDER 11 (2), 0 (1) .. 10: the row begins behind the first
+        due.is("how many", y.longest(-1), 11);
+        due.is("its first", y.longest(0), 0);
+        y.lie(11, 0);
+        due.is("how many behind 0", y.longest(-1), 11);
+    }
+
     /* ---- promise 28 ---- */
 
     /** "NONE: none", "one who would come": BARRED and SULKING ones have none. */
@@ -546,6 +567,18 @@ public final class BoundsOfNowTest {
         }
     }
 
+    /** Of a PEW behind as of the front one, to the sixth of PEWS of 2. */
+    private static void p30_couples_ofPewsBehind() {
+        JuniorPews x = after("person 1;person 2;person 5;person 9;seats 2;minds 0;");
+        due.are("two pews", x::couples, 2, 5);
+        due.are("with whom", p -> x.person(p, 8), 1, 0, 3, 2);
+        JuniorPews y = after(TWELVE + "seats 2;");
+        due.are("six pews", y::couples, 6, 0);
+        due.are("with whom, of 12", p -> y.person(p, 8), 1, 0, 3, 2, 5, 4, 7, 6, 9, 8, 11, 10);
+        JuniorPews z = after(TWELVE + "seats 3;");
+        due.are("with whom, by threes", p -> z.person(p, 8), 1, 0, -1, 4, 3, -1, 7, 6, -1, 10, 9, -1);
+    }
+
     /** They are counted anew by each call. */
     private static void p30_couples_askedTwice() {
         JuniorPews x = after(TWELVE);
@@ -561,6 +594,7 @@ public final class BoundsOfNowTest {
     /** "as many as can" counts more than how much: of four there are two couples. */
     private static void p30_couples_asManyAsCanAheadOfLeast() {
         due.are("four", after("person 0;person 20;person 20;person 29;")::couples, 2, 29);
+        due.are("four by 58", after("person 0;person 29;person 29;person 0;minds 0;")::couples, 2, 58);
     }
 
     /** "of like ones the first row (by PEOPLE: the other one; with nobody behind all)". */
@@ -574,6 +608,22 @@ public final class BoundsOfNowTest {
         x.swap(0, 1);
         // 2, 1, 0: 0 with 1 ahead of 0 with nobody
         due.are("2, 1, 0", p -> x.person(p, 8), 1, 0, -1);
+    }
+
+    /** "of like ones the first row": where the first of PEOPLE are with the same ones, those behind them tell it. */
+    private static void p30_couples_theFirstRowByThoseBehind() {
+        JuniorPews x = Tape.chapel("person 5;".repeat(5));
+        for (int p : new int[] {3, 2, 4, 0, 1}) {
+            x.come(p);
+        }
+        // 0 with 1 by two ways, and then 2 with 3 or with 4
+        due.are("3, 2, 4, 0, 1", p -> x.person(p, 8), 1, 0, 3, 2, -1);
+        JuniorPews y = Tape.chapel("person 5;".repeat(3));
+        for (int p : new int[] {0, 2, 1}) {
+            y.come(p);
+        }
+        // 0 tells it ahead of 1, who would be with nobody by it
+        due.are("0, 2, 1", p -> y.person(p, 8), 2, -1, 0);
     }
 
     /** "NoSuchElementException: another what": 0 and 1 are taken, -1 and 2 aren't. */

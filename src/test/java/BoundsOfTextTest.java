@@ -777,6 +777,59 @@ public final class BoundsOfTextTest {
         due.is("would come then", y.count(5), 4095);
     }
 
+    /** 'seat' is that of a PEW behind, too: the first and the last of PEW 1. */
+    private static void terms_values_seatOfAPewBehind() {
+        JuniorPews x = Tape.chapel(TWELVE + "seats 6;sulks seat=5;");
+        x.sundays(1);
+        due.is("seat 5 of both", x.count(5), 4095 - 32 - 2048);
+        JuniorPews y = Tape.chapel(TWELVE + "seats 6;sulks pew=1 and seat=0;");
+        y.sundays(1);
+        due.is("seat 0 of pew 1", y.count(5), 4095 - 64);
+    }
+
+    /** "of MINDS, for who sits: .. 'pew', 'seat'": to 10 of each, the last that another one can come to. */
+    private static void terms_values_pewAndSeatOfMindsUpTo10() {
+        JuniorPews x = Tape.chapel(TWELVE + "seats 1;minds pew=10;");
+        JuniorPews y = Tape.chapel(TWELVE + "minds seat=10;");
+        for (int p = 0; p < 11; p++) {
+            due.is("pews: come " + p, x.come(p), 0);
+            due.is("seats: come " + p, y.come(p), 0);
+        }
+        due.is("who is in pew 10 minds", x.come(11), 1);
+        due.is("has its seat", x.person(11, 0), 10);
+        due.is("goes to pew 11", x.person(10, 0), 11);
+        due.is("who is in seat 10 minds", y.come(11), 1);
+        due.is("has seat 10", y.person(11, 1), 10);
+        due.is("goes to pew 1", y.person(10, 0), 1);
+    }
+
+    /** "'theirs' (AGE of who comes to that PEW, PUT OUT or not)". */
+    private static void terms_values_theirsOfWhoComesToThatPew() {
+        JuniorPews x = Tape.chapel("person 9;person 7;person 3;seats 1;minds pew=0 and theirs=3 or pew=1 and theirs=9;");
+        x.come(0);
+        x.come(1);
+        // 2 (3) puts out 0 (9), who comes to PEW 1 and puts out 1
+        due.is("put out", x.come(2), 2);
+        due.are("pews", p -> x.person(p, 0), 1, 2, 0);
+        JuniorPews y = Tape.chapel("person 9;person 9;person 7;seats 1;minds pew=1 and theirs=7;");
+        y.come(0);
+        y.come(1);
+        due.is("not put out, by a full pew", y.come(2), 1);
+        due.are("pews then", p -> y.person(p, 0), 0, 2, 1);
+    }
+
+    /** "'moved' (so, too)": of MINDS it counts on the same SUNDAY, and is 0 on the next one till one is PUT OUT. */
+    private static void terms_values_movedOfMindsCountsOnTheSameSunday() {
+        JuniorPews x = Tape.chapel("person 9;person 5;person 5;minds moved=0;");
+        for (int sunday = 1; sunday <= 2; sunday++) {
+            x.sundays(1);
+            // 1 puts out 0; 2 puts out 1, whom 0, who was put out once, doesn't mind
+            due.are("pew 0 on " + sunday, w -> x.pew(0, w), 1, 4, 2, 2, 5);
+            due.are("pew 1 on " + sunday, w -> x.pew(1, w), 2, 3, 0, 1, 14);
+            due.is("put out on " + sunday, x.count(6), 2);
+        }
+    }
+
     /** 'sunday' is the SUNDAY ahead of it: 0 at first, and one that the next 10,000 Sundays bring, too. */
     private static void terms_values_sundayIs0AtFirstAndGoesOnBehind9999() {
         due.is("0", Tape.chapel("person 9;sulks sunday=0;").count(5), 0);
