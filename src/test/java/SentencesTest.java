@@ -1,6 +1,6 @@
 /**
- * Sentences of the document that name no boundary, and that no other test would have missed: each in a method of its own,
- * named by its promise, with the answers worked out by hand.
+ * Sentences of the document that name no boundary, and by whose breach only random runs would have failed: each in a method
+ * of its own, named by its promise, with the answers worked out by hand.
  */
 public final class SentencesTest {
     /** By one Sunday: pew 0 has 1, 3, 4, pew 1 has 2, pew 2 has 0, and three are put out. */
