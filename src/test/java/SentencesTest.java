@@ -181,6 +181,19 @@ public final class SentencesTest {
         due.are("look without people", x::look, -1, 0);
     }
 
+    /** OLD: "now all SEEN would be so": the Sundays of what is seen are counted from now, not from when it was seen. */
+    private static void p33_old_sundaysAreCountedFromNow() {
+        JuniorPews x = Tape.chapel("person 3;sulks sunday=1;");
+        x.see(0, 1, 0);
+        due.is("behind the first", x.old(2), 1);
+        x.sundays(1);
+        due.is("on the second 0 sulks", x.old(2), 0);
+        x.sundays(1);
+        due.is("behind the third", x.old(2), 1);
+        x.undo();
+        due.is("undone", x.old(2), 0);
+    }
+
     /** RAIN keeps away those of 15 or more; who is BARRED or SULKS stays away in the rain as ever. */
     private static void p35_rain_whoIsBarredOrSulksStaysAway() {
         JuniorPews x = Tape.chapel("person 3;");
